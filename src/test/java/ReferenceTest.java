@@ -24,6 +24,7 @@ public final class ReferenceTest {
     private final boolean wild;
     private int[] typing = {};
     private int typed = 0;
+    private int crowd;
 
     private ReferenceTest(int run) {
         random = new Random(run);
@@ -32,6 +33,7 @@ public final class ReferenceTest {
         alphabet = alphabets[random.nextInt(alphabets.length)];
         mostTyped = new int[] {1, 2, 3, 5, 9, 30, 60}[random.nextInt(7)];
         wild = random.nextInt(6) == 0;
+        crowd = random.nextInt(3) == 0 ? 3 * (4 + random.nextInt(17)) : 0;
     }
 
     /** Each run prefers other calls, so that some reach many captions, some many ballots, some long histories. */
@@ -74,9 +76,19 @@ public final class ReferenceTest {
         }
     }
 
+    /** A crowd comes first in some runs: captions of one letter each, so that there are many groups. */
     private boolean step() {
+        if (crowd > 0) {
+            crowd--;
+            int letter = 'a' + (random.nextInt(12) == 0 ? random.nextInt(26) : crowd / 3);
+            int[] arguments = {crowd % 3 == 1 ? letter : random.nextInt(10)};
+            return step(new int[] {0, 8, 9}[crowd % 3], crowd % 3 == 2 ? new int[] {} : arguments);
+        }
         int what = typed < typing.length ? 8 : pick();
-        int[] a = argumentsOf(what);
+        return step(what, argumentsOf(what));
+    }
+
+    private boolean step(int what, int[] a) {
         long got = call(what, a);
         long due = refer(what, a);
         StringBuilder told = new StringBuilder(NAMES[what]).append('(');
@@ -84,7 +96,7 @@ public final class ReferenceTest {
             told.append(i == 0 ? "" : ", ").append(a[i]);
         }
         trace.add(told.append(") = ").append(got).append(got == due ? "" : ", due is " + due).toString());
-        if (what == 9 && random.nextInt(5) > 0) {
+        if (what == 9 && crowd == 0 && random.nextInt(5) > 0) {
             startTyping();
         }
         return got == due;
