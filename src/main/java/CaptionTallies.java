@@ -604,7 +604,7 @@ public final class CaptionTallies {
 
         int firstFault() {
             boolean hasLetter = false;
-            for (int place = 0; place < length; place++) {
+            for (int place = 0; place < length && place < LETTERS; place++) {
                 int code = codeAt(place);
                 if (isLetter(code)) {
                     hasLetter = true;
@@ -691,9 +691,10 @@ public final class CaptionTallies {
             }
             present[caption] = true;
             authors[caption] = author;
-            lengths[caption] = draft.length();
+            int length = Math.min(draft.length(), LETTERS);
+            lengths[caption] = length;
             coreLengths[caption] = 0;
-            for (int place = 0; place < draft.length(); place++) {
+            for (int place = 0; place < length; place++) {
                 addLetter(caption, place, draft.codeAt(place));
             }
             firstAlike[caption] = firstWithCoreOf(caption);

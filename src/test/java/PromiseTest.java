@@ -216,6 +216,7 @@ public final class PromiseTest {
         due("not of 1", x.caption(1, 4), 0);
         due("join with 0", x.join(4, 0), 0);
         due("one group", x.count(2), 1);
+        due("both links of 4", x.caption(4, 4), 2);
         x.withdraw(4);
         due("parts fall apart", x.count(2), 3);
         due("head of 3", x.caption(3, 1), 2);
