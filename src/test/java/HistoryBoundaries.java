@@ -23,6 +23,7 @@ final class HistoryBoundaries {
         kept();
         restored();
         restoredOnceMore();
+        restoredInPlaceOfOthers();
         noSnapshot();
         refusedCallsChangeNothing();
         fullTextChangesNothing();
@@ -388,6 +389,39 @@ final class HistoryBoundaries {
         Due.is("is a snapshot", y.restore(), 0);
         Due.is("no captions so far", y.count(1), 0);
         Due.is("the next number", y.submit(5), 0);
+    }
+
+    /** Captions that were undone leave their numbers to others; what is restored has its own ones again. */
+    private static void restoredInPlaceOfOthers() {
+        Due.sentence(14, "Restores the state of the snapshot, which stays.");
+        Contest x = Contest.of("a");
+        x.submit(7, "A-b c");
+        x.submit(8, "abC");
+        x.keep();
+        x.undo();
+        x.undo();
+        Due.is("another one in its place", x.submit(3, "x, y! z w"), 1);
+        Due.is("another one in its place", x.submit(4, "WXYZV"), 2);
+        Due.is("restore", x.restore(), 3);
+        int[] kept = {7, 5, 3, '-', 1, 0, 2};
+        tellOneAndTwo("of the snapshot", x, kept);
+        Due.sentence(12, "undo() removes and restores the latest one.");
+        Due.is("undo", x.undo(), 3);
+        int[] then = {3, 9, 4, ',', 2, 2, 4};
+        tellOneAndTwo("behind undo", x, then);
+        Due.is("restore", x.restore(), 3);
+        tellOneAndTwo("of the snapshot", x, kept);
+    }
+
+    private static void tellOneAndTwo(String what, Contest x, int[] wants) {
+        Due.is(what + ", author of 1", x.caption(1, 0), wants[0]);
+        Due.is(what + ", author of 2", x.caption(2, 0), wants[0] + 1);
+        Due.is(what + ", characters of 1", x.caption(1, 2), wants[1]);
+        Due.is(what + ", letters of 1", x.caption(1, 3), wants[2]);
+        Due.is(what + ", letter of 1", x.letter(1, 1), wants[3]);
+        Due.is(what + ", head of 2", x.caption(2, 1), wants[4]);
+        Due.is(what + ", from 1 to 2", x.distance(1, 2), wants[5]);
+        Due.is(what + ", from 0 to 1", x.distance(0, 1), wants[6]);
     }
 
     private static void noSnapshot() {
