@@ -98,11 +98,14 @@ final class Due {
     private static List<String> sentencesOf(String section) {
         List<String> sentences = new ArrayList<>();
         for (String line : section.split("\n")) {
-            boolean isAnswer = line.startsWith("Returns ") || line.startsWith("- ");
+            if (line.matches(WITHOUT_BOUNDARY)) {
+                continue;
+            }
+            String words = line.replaceFirst("^(?:int )?\\w+\\(.*?\\): ", "");
+            boolean isAnswer = words.startsWith("Returns ") || words.startsWith("- ");
             String pieces = isAnswer ? "; |, (?=\\d\\d? (?:for|to) )" : "(?<=[.)]) (?=[A-Z(])";
-            String words = line.replaceFirst("^- what: |^(?:int )?\\w+\\(.*?\\): (?:- )?", "");
-            for (String piece : words.split(pieces)) {
-                if (!piece.isBlank() && !piece.matches(WITHOUT_BOUNDARY)) {
+            for (String piece : words.replaceFirst("^- what: ", "").split(pieces)) {
+                if (!piece.isBlank()) {
                     sentences.add(piece.trim());
                 }
             }
