@@ -11,6 +11,8 @@ final class CaptionBoundaries {
         joinChecksInOrder();
         joinedByChains();
         joinedOfAll();
+        lastOnesAlike();
+        lastOnesLinked();
         parted();
         partedOfAll();
         partChecksInOrder();
@@ -162,6 +164,47 @@ final class CaptionBoundaries {
         Due.is("its captions", x.group(11, 0), 9);
         Due.is("joined past the withdrawn one", x.join(11, 9), 0);
         Due.is("links", x.count(3), 20);
+    }
+
+    private static void lastOnesAlike() {
+        Due.sentence(4, "Captions that are alike are in one group");
+        for (int first = 0; first < 19; first++) {
+            Contest x = Contest.ofGroups(19);
+            x.text("a".repeat(first) + "A");
+            Due.is("the last one", x.submit(0), 19);
+            Due.is("alike to " + first, x.caption(19, 1), first);
+            Due.is("captions of its group", x.group(19, 0), 2);
+            Due.is("groups", x.count(2), 19);
+            Due.is("nothing to join", x.join(first, 19), Due.NONE);
+            Due.is("withdraw", x.withdraw(first), 19);
+            Due.is("alone", x.caption(19, 1), 19);
+        }
+    }
+
+    private static void lastOnesLinked() {
+        Due.sentence(5, "NONE if it has no links (to withdrawn captions neither)");
+        Contest x = Contest.ofGroups(20);
+        for (int other = 1; other < 20; other++) {
+            Due.is("join 0 and " + other, x.join(other, 0), 0);
+            Due.is("links of 0", x.caption(0, 4), 1);
+            Due.is("links of " + other, x.caption(other, 4), 1);
+            Due.is("links", x.count(3), 1);
+            Due.is("part 0 from " + other, x.part(0), 0);
+            Due.is("no links", x.count(3), 0);
+            Due.is("0 has none", x.part(0), Due.NONE);
+            Due.is(other + " has none", x.part(other), Due.NONE);
+        }
+        for (int other = 0; other < 19; other++) {
+            Due.is("join 19 and " + other, x.join(19, other), other);
+            Due.is("withdraw " + other, x.withdraw(other), 19);
+            Due.is("links of 19", x.caption(19, 4), 0);
+            Due.is("part 19 from " + other, x.part(19), 19);
+            Due.is("19 has none", x.part(19), Due.NONE);
+            x.undo();
+            x.undo();
+            Due.is("in the contest again", x.caption(19, 4), 1);
+            x.undo();
+        }
     }
 
     private static void parted() {

@@ -185,6 +185,12 @@ final class PrizeBoundaries {
         for (int caption = 0; caption < 5; caption++) {
             Due.is("100 for two, 50 for three: " + caption, x.caption(caption, 5), wants[caption]);
         }
+        Due.sentence(17, "6 for what it gets");
+        int[] groups = {100, 50, 50, 100, 50};
+        for (int caption = 0; caption < 5; caption++) {
+            Due.is("what its captions share: " + caption, x.group(caption, 6), groups[caption]);
+        }
+        Due.sentence(15, "each gets as much, rounded down, the rest one each, the lowest numbers first");
         x.prize(1, 101);
         x.prize(2, 49);
         int[] then = {51, 17, 16, 50, 16};
@@ -420,6 +426,12 @@ final class PrizeBoundaries {
         Due.is("the others move up", x.count(5), 11 * 5 + 3);
         x.withdraw(1);
         Due.is("the others move up", x.count(5), 11 * 3 + 3);
+        Contest y = Contest.ofGroups(20);
+        for (int head = 0; head < 20; head++) {
+            y.vote(11, head, Due.NONE, Due.NONE);
+            Due.is("of the group " + head, y.count(5), 3);
+            Due.is("its points", y.group(head, 1), 3);
+        }
     }
 
     private static void countWhatAllGet() {

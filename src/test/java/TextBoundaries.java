@@ -17,11 +17,13 @@ final class TextBoundaries {
         anyCharacter();
         cleared();
         letters();
+        lettersOfTwentyTimesSixty();
         cores();
         distances();
         distancesOfSixty();
         nearest();
         nearestOfGroups();
+        nearestOfCores();
         nearestMost();
     }
 
@@ -264,6 +266,37 @@ final class TextBoundaries {
         Due.is("the first", x.letter(0, 0), 'a');
     }
 
+    private static char letterOf(int caption, int place) {
+        return (char) ((place % 2 == 0 ? 'a' : 'A') + (caption + place) % 26);
+    }
+
+    private static void lettersOfTwentyTimesSixty() {
+        Due.sentence(16, "Returns the code of the character");
+        int tested = 0;
+        while (tested < 20) {
+            // a contest has calls enough to type some captions of sixty characters alone; the others have one
+            Contest x = new Contest();
+            int from = tested;
+            for (int caption = 0; caption < 20; caption++) {
+                boolean isLong = caption >= from && caption < from + 4;
+                StringBuilder text = new StringBuilder();
+                for (int place = 0; place < (isLong ? 60 : 1); place++) {
+                    text.append(letterOf(caption, place));
+                }
+                Due.is("submit", x.submit(0, text.toString()), caption);
+            }
+            for (int caption = from; caption < from + 4; caption++) {
+                for (int place = caption % 2; place < 60; place += 4) {
+                    Due.is("letter " + place + " of " + caption, x.letter(caption, place), letterOf(caption, place));
+                }
+                Due.is("the last letter of " + caption, x.letter(caption, 59), letterOf(caption, 59));
+                Due.is("no letter 60 of " + caption, x.letter(caption, 60), Due.NONE);
+                Due.is("the letters of " + caption, x.caption(caption, 3), 60);
+                tested++;
+            }
+        }
+    }
+
     private static void cores() {
         Due.sentence(15, "The core of a caption is the row of its letters, great ones as small ones, without "
                 + "anything else.");
@@ -382,6 +415,19 @@ final class TextBoundaries {
         Due.is("second", y.near(1, 1), 2);
         Due.is("third", y.near(2, 2), 3);
         Due.is("no fourth", y.near(3, 2), Due.NONE);
+    }
+
+    private static void nearestOfCores() {
+        Due.sentence(23, "those with the least distance first");
+        Contest x = Contest.of("abc", "a-b-d!!!!", "......x.y.z", "aBcDeFg", "a, b, c, d, e, f, h, i, j");
+        // the cores abc, abd, xyz, abcdefg and abcdefhij: signs do not count, neither for nor against being near
+        int[][] wants = {{0, 1, 1}, {0, 2, 3}, {1, 2, 3}, {3, 4, 3}};
+        for (int rank = 0; rank < wants.length; rank++) {
+            for (int what = 0; what <= 2; what++) {
+                Due.is("near " + rank + ", " + what, x.near(rank, what), wants[rank][what]);
+            }
+        }
+        Due.is("no more", x.near(4, 0), Due.NONE);
     }
 
     private static void nearestMost() {
