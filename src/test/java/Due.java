@@ -18,7 +18,7 @@ final class Due {
     private static final int PROMISES = 25;
     private static final String WITHOUT_BOUNDARY = "[A-Z]+|Ahead of the calls .*";
 
-    /** Section 0 has the Terms, section n the Promise n. */
+    /** Section 0 has what binds all promises (What it is, Terms), section n the Promise n. */
     private static final List<String> sections = new ArrayList<>();
     private static final List<Set<String>> quotes = new ArrayList<>();
     private static int checks = 0;
@@ -32,11 +32,19 @@ final class Due {
     static void readDocument(Path path) throws IOException {
         String text = Files.readString(path);
         for (int section = 0; section <= PROMISES; section++) {
-            int from = text.indexOf(section == 0 ? "\n## Terms\n" : "\n## Promise " + section + ":");
-            int to = text.indexOf(section == PROMISES ? "\n## Not promised\n" : "\n## Promise " + (section + 1) + ":");
-            sections.add(from < 0 || to < from ? "" : plain(text.substring(text.indexOf('\n', from + 1), to)));
+            String from = section == 0 ? "## Terms\n" : "## Promise " + section + ":";
+            String to = section == PROMISES ? "## Not promised\n" : "## Promise " + (section + 1) + ":";
+            String about = section == 0 ? between(text, "## What it is\n", "## The public face\n") : "";
+            sections.add(plain(about + between(text, from, to)));
             quotes.add(new HashSet<>());
         }
+    }
+
+    /** What stands between two headings; nothing if they are not there. */
+    private static String between(String text, String heading, String next) {
+        int from = text.indexOf("\n" + heading);
+        int to = text.indexOf("\n" + next);
+        return from < 0 || to < from ? "" : text.substring(text.indexOf('\n', from + 1), to);
     }
 
     private static String plain(String text) {
@@ -79,7 +87,7 @@ final class Due {
             fault("nothing is checked of it");
         }
         for (int section = 0; section <= PROMISES; section++) {
-            told = section == 0 ? "Terms" : "promise " + section;
+            told = section == 0 ? "What it is, Terms" : "promise " + section;
             List<String> all = sentencesOf(sections.get(section));
             if (all.isEmpty()) {
                 fault("not in the document");

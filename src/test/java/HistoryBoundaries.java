@@ -13,6 +13,7 @@ final class HistoryBoundaries {
     static void all() {
         constants();
         newObject();
+        manyCalls();
         fourStates();
         undoneInOrder();
         undoneToNothing();
@@ -72,6 +73,23 @@ final class HistoryBoundaries {
         Contest y = Contest.of("a");
         Due.is("another object's captions", x.count(1), 0);
         Due.is("its own", y.count(1), 1);
+    }
+
+    private static void manyCalls() {
+        Due.sentence(1, "Tallies of a caption contest: captions that are read from a text");
+        Due.sentence(1, "An object is used for at most 512 calls after it has been made; what later calls answer is free.");
+        Contest x = new Contest().text("abc");
+        // clearText and type were four calls, so that the loop goes from the fifth one to the last but one
+        for (int call = 5; call <= 511; call++) {
+            int turn = call - 5;
+            Due.is("call " + call, turn % 2 == 0 ? x.submit(0) : x.undo(), 0);
+        }
+        Due.is("the 512th call", x.count(1), 1);
+        Contest y = new Contest();
+        for (int call = 1; call <= 511; call++) {
+            Due.is("call " + call, y.set(0, call % 2), 1 - call % 2);
+        }
+        Due.is("the 512th call", y.undo(), 3);
     }
 
     private static void fourStates() {
