@@ -17,6 +17,7 @@ final class BallotBoundaries {
         zeroToTenPoints();
         scoreChecksInOrder();
         pointsOfGroups();
+        pointsOfWithdrawnOnes();
         ranks();
         ranksOfTwenty();
         judgedChecksInOrder();
@@ -337,6 +338,28 @@ final class BallotBoundaries {
         Due.is("the most of the joined", x.judged(0, 1, 1), 10);
     }
 
+    private static void pointsOfWithdrawnOnes() {
+        Due.sentence(18, "the points of a judge for a group are the most that the judge gave to any of its captions, 0 if "
+                + "none.");
+        Contest x = Contest.ofGroups(20);
+        for (int judge = 0; judge < 3; judge++) {
+            x.score(judge, 19, 10);
+            x.score(judge, 9, 9);
+        }
+        x.withdraw(19);
+        x.withdraw(9);
+        for (int judge = 0; judge < 3; judge++) {
+            for (int caption = 0; caption < 19; caption++) {
+                boolean isIn = caption != 9;
+                Due.is("points for " + caption, x.judged(judge, caption, 1), isIn ? 0 : Due.UNKNOWN);
+                Due.is("rank of " + caption, x.judged(judge, caption, 2), isIn ? 1 : Due.UNKNOWN);
+            }
+        }
+        Due.is("ranks of the last one", x.group(18, 3), 3);
+        Due.is("rank of points given then", x.score(2, 18, 1), 1);
+        Due.is("rank of another one", x.judged(2, 0, 2), 2);
+    }
+
     private static void ranks() {
         Due.sentence(18, "The rank of a group by a judge is 1 plus the number of groups to which the judge gave more "
                 + "points.");
@@ -374,6 +397,10 @@ final class BallotBoundaries {
         Due.is("the greatest rank", x.judged(1, 0, 2), 20);
         Due.is("three share the next one", x.judged(1, 1, 2), 17);
         Due.is("as the judge gave nothing", x.judged(0, 0, 2), 1);
+        Due.is("the last caption by the last judge", x.judged(2, 19, 2), 1);
+        Due.is("the last caption by the last judge", x.score(2, 19, 0), 1);
+        Due.is("points by the last judge", x.score(2, 18, 1), 1);
+        Due.is("the last caption behind it", x.judged(2, 19, 2), 2);
     }
 
     private static void judgedChecksInOrder() {

@@ -14,8 +14,10 @@ final class OrderBoundaries {
         roundsOfTwenty();
         roundChecksInOrder();
         roundsOfWishes();
+        roundsOfThirdWishes();
         roundsForNone();
         roundsOfSeveral();
+        roundsRankAllGroups();
         orderOfRounds();
         noTiesByRounds();
         tiesKept();
@@ -289,6 +291,24 @@ final class OrderBoundaries {
         Due.is("no third round", x.round(2, 2), Due.NONE);
     }
 
+    private static void roundsOfThirdWishes() {
+        Due.sentence(21, "each ballot counts for the first of its wishes whose group is left");
+        Contest x = Contest.of("a", "b", "c", "d");
+        x.vote(0, 3, 2, 1);
+        x.vote(1, 0, Due.NONE, Due.NONE);
+        x.vote(2, 0, Due.NONE, Due.NONE);
+        x.vote(3, 1, Due.NONE, Due.NONE);
+        Due.is("c without ballots", x.round(0, 0), 2);
+        Due.is("d, of two with one ballot the greatest head", x.round(1, 0), 3);
+        // the ballot of 0 counts for b then, its third wish, so that a and b have two each
+        Due.is("b by its head", x.round(2, 0), 1);
+        Due.is("its ballots", x.round(2, 1), 2);
+        Due.is("no ballot is lost", x.round(2, 2), 8);
+        x.vote(4, 1, Due.NONE, Due.NONE);
+        Due.is("a with two against three", x.round(2, 0), 0);
+        Due.is("b is left", x.group(1, 7), Due.NONE);
+    }
+
     private static void roundsForNone() {
         Due.sentence(21, "(empty ones too)");
         Contest x = Contest.of("a", "b", "c");
@@ -336,6 +356,37 @@ final class OrderBoundaries {
         Due.is("those without ballots", x.round(0, 0), 3);
         Due.is("those without ballots", x.round(1, 0), 2);
         Due.is("without a ballot, the sum of ranks is less", x.round(2, 0), 0);
+    }
+
+    /** Groups that are left out are groups still: the ranks of the others stay as they were. */
+    private static void roundsRankAllGroups() {
+        Due.sentence(21, "The rank of a group by a judge is 1 plus the number of groups to which the judge gave more "
+                + "points.");
+        Due.sentence(21, "of several the one with the greatest sum of ranks by all judges");
+        Contest x = Contest.of("a", "b", "c", "d");
+        x.score(0, 1, 2);
+        x.score(0, 2, 1);
+        x.score(0, 3, 1);
+        x.score(1, 0, 1);
+        x.score(2, 0, 1);
+        x.vote(0, 0, Due.NONE, Due.NONE);
+        x.vote(1, 1, Due.NONE, Due.NONE);
+        Due.is("ranks of a, 4 + 1 + 1", x.group(0, 3), 6);
+        Due.is("ranks of b, 1 + 2 + 2", x.group(1, 3), 5);
+        Due.is("d first", x.round(0, 0), 3);
+        Due.is("then c", x.round(1, 0), 2);
+        // of a and b alone, b would have the greater sum: 1 + 2 + 2 against 2 + 1 + 1
+        Due.is("then a", x.round(2, 0), 0);
+        Due.is("b is left", x.group(1, 7), Due.NONE);
+        x.set(0, 1);
+        Due.is("b ahead of all", x.ranked(0), 1);
+        Due.is("a behind it", x.ranked(1), 0);
+        x.withdraw(2);
+        x.withdraw(3);
+        // withdrawn ones are in no group, so that a and b are all groups there are
+        Due.is("ranks of a, 2 + 1 + 1", x.group(0, 3), 4);
+        Due.is("ranks of b, 1 + 2 + 2", x.group(1, 3), 5);
+        Due.is("b is left out", x.round(0, 0), 1);
     }
 
     private static void orderOfRounds() {
@@ -592,5 +643,13 @@ final class OrderBoundaries {
         x.set(2, 0);
         x.set(0, 1);
         Due.is("the method 1", x.count(10), 0);
+        Contest y = Contest.of("a", "b", "c", "d");
+        Due.is("four tie", y.count(10), 4);
+        y.withdraw(3);
+        Due.is("without the withdrawn one", y.count(10), 3);
+        y.join(0, 2);
+        Due.is("a group counts once", y.count(10), 2);
+        y.withdraw(1);
+        Due.is("the only group", y.count(10), 0);
     }
 }

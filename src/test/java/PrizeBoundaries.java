@@ -456,6 +456,12 @@ final class PrizeBoundaries {
         Due.is("six groups", x.count(6), 185);
         x.set(1, 0);
         Due.is("no prizes", x.count(6), 0);
+        Contest y = Contest.ofGroups(20);
+        for (int left = 19; left >= 0; left--) {
+            y.withdraw(left);
+            int want = left > 2 ? 170 : left == 2 ? 150 : left == 1 ? 100 : 0;
+            Due.is("withdrawn ones get nothing, " + left + " are left", y.count(6), want);
+        }
     }
 
     private static void countSettingsAndPrizes() {

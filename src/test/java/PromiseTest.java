@@ -78,6 +78,7 @@ public final class PromiseTest {
         ranked();
         round();
         roundTies();
+        roundRanks();
         distance();
         near();
         author();
@@ -1060,6 +1061,35 @@ public final class PromiseTest {
         // once b is out, a visitor whose wishes are all out counts for none
         y.vote(1, 1, NONE, NONE);
         due("for none", y.round(1, 2), 10);
+    }
+
+    private static void roundRanks() {
+        part = "21 round, ranks are among all groups, also those that were left out";
+        CaptionTallies x = contest("a", "b", "c", "d");
+        x.score(0, 1, 2);
+        x.score(0, 2, 1);
+        x.score(0, 3, 1);
+        x.score(1, 0, 1);
+        x.score(2, 0, 1);
+        x.vote(0, 0, NONE, NONE);
+        x.vote(1, 1, NONE, NONE);
+        due("ranks of a", x.group(0, 3), 4 + 1 + 1);
+        due("ranks of b", x.group(1, 3), 1 + 2 + 2);
+        due("d first", x.round(0, 0), 3);
+        due("then c", x.round(1, 0), 2);
+        due("a, though b has the greater sum among those two", x.round(2, 0), 0);
+        due("b is left", x.group(1, 7), NONE);
+        CaptionTallies y = contest("a", "b", "c", "d");
+        y.vote(0, 3, 2, 1);
+        y.vote(1, 0, NONE, NONE);
+        y.vote(2, 1, NONE, NONE);
+        y.vote(3, 1, NONE, NONE);
+        y.vote(4, 0, NONE, NONE);
+        due("c first", y.round(0, 0), 2);
+        due("then d", y.round(1, 0), 3);
+        due("the third wish counts then", y.round(2, 0), 0);
+        due("against three", y.round(2, 1), 2);
+        due("for none", y.round(2, 2), 7);
     }
 
     private static void distance() {

@@ -19,6 +19,7 @@ final class TextBoundaries {
         letters();
         lettersOfTwentyTimesSixty();
         cores();
+        coresOfTheLastCaptions();
         distances();
         distancesOfSixty();
         nearest();
@@ -325,6 +326,27 @@ final class TextBoundaries {
         Due.is("alike to withdrawn ones alone", z.submit(0, "n"), 6);
         Due.is("a group of its own", z.caption(6, 1), 6);
         Due.is("its captions", z.group(6, 0), 1);
+    }
+
+    private static void coresOfTheLastCaptions() {
+        Due.sentence(15, "The core of a caption is the row of its letters");
+        Contest x = new Contest().text("a");
+        for (int caption = 0; caption < 18; caption++) {
+            Due.is("submit", x.submit(0), caption);
+        }
+        x.submit(0, "q".repeat(59) + "r");
+        x.submit(0, "q".repeat(59) + "s");
+        Due.is("letters of the last one", x.caption(19, 3), 60);
+        Due.is("only the last letters are others", x.caption(19, 1), 19);
+        Due.is("one letter exchanged", x.distance(18, 19), 1);
+        Due.is("one letter exchanged, the others put in", x.distance(0, 19), 60);
+        Due.is("the nearest", x.near(0, 1), 19);
+        x.undo();
+        x.submit(0, "Q-".repeat(20) + "Q".repeat(20));
+        x.undo();
+        x.submit(0, "Q".repeat(59) + "R");
+        Due.is("alike", x.caption(19, 1), 18);
+        Due.is("no distance", x.distance(18, 19), 0);
     }
 
     private static void distances() {
