@@ -390,6 +390,11 @@ public final class PromiseTest {
         due("place most", x.prize(MOST, 1), BAD_VALUE);
         x.undo();
         due("undo", x.count(25), 999);
+        CaptionTallies y = new CaptionTallies();
+        for (int place = 1; place <= 5; place++) {
+            due("nothing in the place of the first prize", y.prize(place, 0), first[place]);
+            due("the first prize again", y.prize(place, first[place]), 0);
+        }
     }
 
     private static void type() {
